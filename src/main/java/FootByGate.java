@@ -310,7 +310,7 @@ public final class FootByGate {
         if (printCount >= PRINTS) {
             return FULL;
         }
-        prints[printCount] = Print.of(gate, way, foot);
+        prints[printCount] = printNumber(gate, way, foot);
         printCount++;
         return printCount;
     }
@@ -416,9 +416,9 @@ public final class FootByGate {
             h = 31 * h + streetsTold(stones, 1);
         }
         for (int i = 0; i < printCount; i++) {
-            h = 31 * h + Print.gateOf(prints[i]);
-            h = 31 * h + Print.wayOf(prints[i]);
-            h = 31 * h + Print.footOf(prints[i]);
+            h = 31 * h + gateOfPrint(prints[i]);
+            h = 31 * h + wayOfPrint(prints[i]);
+            h = 31 * h + footOfPrint(prints[i]);
         }
         h = 31 * h + who();
         for (int i = 0; i < page.length; i++) {
@@ -606,9 +606,9 @@ public final class FootByGate {
         reach.take(gait, map.streets);
         int stand = one.stand;
         for (int i = 0; i < printCount; i++) {
-            int street = map.streetOf[Print.gateOf(prints[i])];
-            int from = Print.wayOf(prints[i]) == 0 ? map.first[street] : map.second[street];
-            int foot = Print.footOf(prints[i]) ^ gait.turn[street];
+            int street = map.streetOf[gateOfPrint(prints[i])];
+            int from = wayOfPrint(prints[i]) == 0 ? map.first[street] : map.second[street];
+            int foot = footOfPrint(prints[i]) ^ gait.turn[street];
             reach.spread(map, stand, false);
             if (!reach.hasStand(from, foot)) {
                 return false;
@@ -619,6 +619,23 @@ public final class FootByGate {
             }
         }
         return true;
+    }
+
+    /** A gate, a way and a foot in one number. */
+    private static int printNumber(int gate, int way, int foot) {
+        return gate * 4 + way * 2 + foot;
+    }
+
+    private static int gateOfPrint(int print) {
+        return print >> 2;
+    }
+
+    private static int wayOfPrint(int print) {
+        return (print >> 1) & 1;
+    }
+
+    private static int footOfPrint(int print) {
+        return print & 1;
     }
 
     private static int nextSeed(int seed) {
@@ -793,13 +810,16 @@ public final class FootByGate {
         /** How one stands behind a street; NONE: it is not at the place, or one may not. */
         int behind(int stand, int street, int turn) {
             int place = Stand.placeOf(stand);
+            if (!isAt(street, place)) {
+                return NONE;
+            }
             int foot = Stand.footOf(stand) ^ turn;
             int marks = Stand.marksOf(stand);
             int by = gate[street];
             if (place == first[street]) {
                 return Stand.of(second[street], foot, by == NONE ? marks : Stand.marked(marks, by, foot));
             }
-            if (place != second[street] || (by != NONE && !isLetOut(Stand.markOf(stand, by), foot))) {
+            if (by != NONE && !isLetOut(Stand.markOf(stand, by), foot)) {
                 return NONE;
             }
             return Stand.of(first[street], foot, marks);
@@ -840,25 +860,6 @@ public final class FootByGate {
 
         static int skipped(int stand) {
             return stand ^ MARKS;
-        }
-    }
-
-    /** A gate, a way and a foot in one number. */
-    private static final class Print {
-        static int of(int gate, int way, int foot) {
-            return gate * 4 + way * 2 + foot;
-        }
-
-        static int gateOf(int print) {
-            return print >> 2;
-        }
-
-        static int wayOf(int print) {
-            return (print >> 1) & 1;
-        }
-
-        static int footOf(int print) {
-            return print & 1;
         }
     }
 
@@ -1179,21 +1180,24 @@ public final class FootByGate {
                 if (number == NONE) {
                     return NONE;
                 }
-                int one = stands[number] / Stand.ALL;
-                int other = stands[number] % Stand.ALL;
-                int cost = heap.costOf(number);
-                if (Stand.placeOf(one) == place) {
-                    return cost;
+                if (Stand.placeOf(stands[number] / Stand.ALL) == place) {
+                    return heap.costOf(number);
                 }
-                for (int s = 0; s < map.streets; s++) {
-                    int next = map.behind(one, s, gait.turn[s]);
-                    int otherNext = map.behind(other, s, otherGait.turn[s]);
-                    if (next != NONE && otherNext != NONE) {
-                        offer(next, otherNext, cost + gait.steps[s] + otherGait.steps[s]);
-                    }
-                }
+                offerNext(map, gait, otherGait, number);
             }
             return NONE;
+        }
+
+        private void offerNext(Town map, Gait gait, Gait otherGait, int number) {
+            int one = stands[number] / Stand.ALL;
+            int other = stands[number] % Stand.ALL;
+            for (int s = 0; s < map.streets; s++) {
+                int next = map.behind(one, s, gait.turn[s]);
+                int otherNext = next == NONE ? NONE : map.behind(other, s, otherGait.turn[s]);
+                if (otherNext != NONE) {
+                    offer(next, otherNext, heap.costOf(number) + gait.steps[s] + otherGait.steps[s]);
+                }
+            }
         }
 
         private void offer(int one, int other, int cost) {
