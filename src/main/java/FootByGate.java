@@ -705,7 +705,7 @@ public final class FootByGate {
                 case AT_FIRST:
                     return isPlaceSign(letter) ? AT_SECOND : WRONG;
                 case AT_SECOND:
-                    return isPlaceSign(letter) && letter != letters[i - 1] ? AT_PACES : WRONG;
+                    return i > 0 && isPlaceSign(letter) && letter != letters[i - 1] ? AT_PACES : WRONG;
                 case AT_PACES:
                     streets++;
                     return letter >= '0' && letter <= '9' ? BEHIND_PACES : WRONG;

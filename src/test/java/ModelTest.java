@@ -985,11 +985,72 @@ public final class ModelTest {
         check("digest()", x.digest(), m.digest(), m);
     }
 
+    /** Gates one behind another, and rounds of two streets beside them: there the marks of now decide. */
+    private static String deepTown() {
+        List<String> streets = new ArrayList<>();
+        int deep = 1 + random.nextInt(3);
+        for (int i = 0; i < deep; i++) {
+            streets.add("" + i + (i + 1) + random.nextInt(3) + "!");
+        }
+        for (int spare = deep + 1; spare < 7 && streets.size() < 9; spare++) {
+            int beside = random.nextInt(spare);
+            streets.add("" + beside + spare + random.nextInt(5));
+            if (random.nextInt(3) != 0) {
+                streets.add("" + spare + beside + random.nextInt(5));
+            }
+        }
+        java.util.Collections.shuffle(streets, random);
+        return String.join(",", streets) + (random.nextInt(5) == 0 ? ";f" : "");
+    }
+
+    /** Two come in arm in arm, skipping now and then, and want to come out again. */
+    private static void deepRun() {
+        FootByGate x = new FootByGate();
+        Model m = new Model();
+        write(x, m, deepTown());
+        check("town()", x.town(), m.town(), m);
+        for (int i = 0; i < 2; i++) {
+            int kind = random.nextInt(5);
+            check("walker()", x.walker(kind, 0, 0), m.walker(kind, 0, 0), m);
+        }
+        for (int i = 0; i < 40; i++) {
+            int s = random.nextInt(m.streets.size());
+            if (m.may(0, s) == 1 && m.may(1, s) == 1 && (m.people.get(0).at.place() == m.streets.get(s).first()
+                    || random.nextInt(3) == 0)) {
+                check("go(0, " + s + ")", x.go(0, s), m.go(0, s), m);
+                check("go(1, " + s + ")", x.go(1, s), m.go(1, s), m);
+            }
+            int w = random.nextInt(8);
+            if (w < 2) {
+                check("skip(" + w + ")", x.skip(w), m.skip(w), m);
+            }
+        }
+        for (int p = 0; p < 7; p++) {
+            check("both(0, 1, " + p + ")", x.both(0, 1, p), m.both(0, 1, p), m);
+            for (int w = 0; w < 2; w++) {
+                check("fewest(" + w + ", " + p + ", 0)", x.fewest(w, p, 0), m.fewest(w, p, 0), m);
+                check("fewest(" + w + ", " + p + ", 1)", x.fewest(w, p, 1), m.fewest(w, p, 1), m);
+                check("skips(" + w + ", " + p + ", 0)", x.skips(w, p, 0), m.skips(w, p, 0), m);
+                check("skips(" + w + ", " + p + ", 1)", x.skips(w, p, 1), m.skips(w, p, 1), m);
+            }
+        }
+        int w = random.nextInt(2);
+        check("shut(" + w + ")", x.shut(w), m.shut(w), m);
+        check("stones(" + w + ", 0, 1)", x.stones(w, 0, 1), m.stones(w, 0, 1), m);
+        check("round(" + w + ", 1)", x.round(w, 1), m.round(w, 1), m);
+        int s = random.nextInt(m.streets.size());
+        int v = random.nextInt(10);
+        check("change(" + s + ", " + v + ")", x.change(s, v), m.change(s, v), m);
+    }
+
     public static void main(String[] args) {
         int runs = args.length > 0 ? Integer.parseInt(args[0]) : 300;
         for (int i = 0; i < runs; i++) {
             int streets = i % 10 == 0 ? 7 + random.nextInt(4) : 1 + random.nextInt(7);
             run(streets, 2 + random.nextInt(Math.min(6, streets + 1)), 160);
+        }
+        for (int i = 0; i < 3 * runs; i++) {
+            deepRun();
         }
         if (args.length > 0) {
             System.out.println(seen);

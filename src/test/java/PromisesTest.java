@@ -513,6 +513,10 @@ public final class PromisesTest {
         due("on the wrong foot", x.shut(0), 0b1111001);
         x.skip(0);
         due("on the right foot", x.shut(0), 0b1111000);
+        FootByGate turned = in("011!,121!,231,322");
+        turned.walker(0, 0, 0);
+        turned.go(0, 0);
+        due("in by one gate and out of it on its new mark, then by the other", turned.shut(0), 0b1110000);
         due("shut(4)", x.shut(4), UNKNOWN);
         due("shut(-1)", x.shut(-1), UNKNOWN);
     }
@@ -660,6 +664,12 @@ public final class PromisesTest {
         due("never both", apart.both(0, 1, 0), NONE);
         apart.skip(1);
         due("both by the detour", apart.both(0, 1, 0), 2 * 1 + 2 * 2 + 2 * 1);
+        FootByGate turned = in("011!,121!,231,322");
+        turned.walker(0, 0, 0);
+        turned.walker(0, 0, 1);
+        turned.go(0, 0);
+        turned.go(1, 0);
+        due("both out on new marks", turned.both(0, 1, 0), 2 * (1 + 1 + 2 + 1 + 1));
         apart.walker(3, 1, 0);
         due("a lame without a mark", apart.both(0, 2, 0), NONE);
         due("nothing changes", apart.about(0, 1), 1);
