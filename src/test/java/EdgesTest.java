@@ -930,6 +930,18 @@ public final class EdgesTest {
         x.repave(4, 8);
         due("no long way", x.skips(0, 0, 0), 1);
         due("its steps then", x.skips(0, 0, 1), 1);
+        sentence(16, "with so few, the least STEPS together: of two ways by one SKIP");
+        x = with("013!,011!", WALKER, 0, LEFT);
+        goes(x, 0, 0);
+        x.skip(0);
+        goes(x, 0, 0);
+        x.skip(0);
+        goes(x, 0, 1);
+        due("how few", x.skips(0, 0, 0), 1);
+        due("steps by the second gate", x.skips(0, 0, 1), 1);
+        x.repave(1, 5);
+        due("how few then", x.skips(0, 0, 0), 1);
+        due("steps by the first gate", x.skips(0, 0, 1), 3);
         sentence(16, "UNKNOWN: walker, place; OUTSIDE");
         due("walker 1", x.skips(1, 0, 0), UNKNOWN);
         due("walker -1", x.skips(-1, 0, 0), UNKNOWN);
