@@ -1140,6 +1140,7 @@ public final class FootByGate {
             return NONE;
         }
 
+        /** No deeper than there are streets: each level takes one from those that are left. */
         private boolean leadsHome(Town map, Gait gait, int stand, int left, int home) {
             if (left == 0) {
                 return Stand.placeOf(stand) == home;
