@@ -119,6 +119,7 @@ public final class EdgesTest {
         stones();
         even();
         both();
+        bothByMarksOfTheWay();
         bothRefused();
         change();
         print();
@@ -1255,6 +1256,64 @@ public final class EdgesTest {
         due("in a free town both may", x.both(0, 1, 0), 4);
         x.skip(0);
         due("on another foot than its mark", x.both(0, 1, 0), NONE);
+    }
+
+    private static void standOn(FootByGate x, int walker, int foot) {
+        if (x.about(walker, 2) != foot) {
+            x.skip(walker);
+        }
+    }
+
+    /**
+     * By street "even" they come to place 1 for nothing, and stand there as they do later with marks of street "odd"
+     * made on the way; just these let them out on the feet that street "last" asks for, but if they had them from the
+     * first. The three, each with a gate, take each other's numbers.
+     */
+    private static void bothByMarksOfTheWay() {
+        sentence(21, "if both MAY: by MARKS that they make on the way, whatever they had of it before");
+        String[] towns = {"011!,010!,400!,120,121", "400!,011!,010!,120,121", "010!,400!,011!,120,121"};
+        int[] marks = {NONE, LEFT, RIGHT};
+        for (int odd = 0; odd < 3; odd++) {
+            for (int feet = 0; feet < 4; feet++) {
+                for (int mark : marks) {
+                    for (int otherMark : marks) {
+                        outByTheLast(towns[odd], odd, new int[] {feet / 2, feet % 2}, new int[] {mark, otherMark});
+                    }
+                }
+            }
+        }
+    }
+
+    private static void outByTheLast(String town, int odd, int[] feet, int[] marks) {
+        FootByGate x = in(town);
+        for (int i = 0; i < 2; i++) {
+            x.walker(WALKER, 4, 1 - feet[i]);
+            comesMarked(x, i, odd, feet[i], marks[i]);
+        }
+        boolean atOnce = marks[0] == 1 - feet[0] && marks[1] == 1 - feet[1];
+        String told = town + ", feet " + feet[0] + feet[1] + ", marks " + marks[0] + " and " + marks[1];
+        due(told, x.both(0, 1, 4), atOnce ? 2 : 6);
+        due(told + ", turned", x.both(1, 0, 4), atOnce ? 2 : 6);
+    }
+
+    /** It stands at place 0 on a foot, which is its mark at "even", and the other one at "last". */
+    private static void comesMarked(FootByGate x, int walker, int odd, int foot, int markAtOdd) {
+        int even = (odd + 1) % 3;
+        int last = (odd + 2) % 3;
+        goes(x, walker, last);
+        standOn(x, walker, foot);
+        goes(x, walker, even, even);
+        if (markAtOdd != NONE) {
+            standOn(x, walker, 1 - markAtOdd);
+            goes(x, walker, odd);
+            standOn(x, walker, foot);
+            goes(x, walker, even);
+        }
+        due("place", x.about(walker, 1), 0);
+        due("foot", x.about(walker, 2), foot);
+        due("mark at odd", x.about(walker, 4 + odd), markAtOdd);
+        due("mark at even", x.about(walker, 4 + even), foot);
+        due("mark at last", x.about(walker, 4 + last), 1 - foot);
     }
 
     private static void bothRefused() {
